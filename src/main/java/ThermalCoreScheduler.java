@@ -531,16 +531,16 @@ public final class ThermalCoreScheduler {
     /** Reads the tokens of a text one after the other. */
     private static final class TokenReader {
         static final int END = 0;
-        static final int WORD = 1;
-        static final int NUMBER = 2;
-        static final int SEMICOLON = 3;
-        static final int WRONG = 4;
+        static final int BLANK = 1;
+        static final int WORD = 2;
+        static final int NUMBER = 3;
+        static final int SEMICOLON = 4;
+        static final int WRONG = 5;
         static final int MAX_DIGITS = 5;
 
         private final Text text;
         int kind;
         int start;
-        int value;
         private int end;
 
         TokenReader(Text text) {
@@ -554,38 +554,34 @@ public final class ThermalCoreScheduler {
 
         void readNext() {
             start = end;
-            while (start < text.length && isBlank(text.byteAt(start))) {
+            while (start < text.length && kindAt(start) == BLANK) {
                 start++;
             }
-            end = start;
-            value = 0;
-            if (start >= text.length) {
-                kind = END;
-            } else if (isLetter(text.byteAt(start))) {
-                readWord();
-            } else if (isDigit(text.byteAt(start))) {
-                readNumber();
-            } else {
-                kind = text.byteAt(start) == ';' ? SEMICOLON : WRONG;
-                end = start + 1;
+            kind = kindAt(start);
+            end = Math.min(start + 1, text.length);
+            while (end < text.length && (kind == WORD || kind == NUMBER) && kindAt(end) == kind) {
+                end++;
+            }
+            if (kind == NUMBER && end - start > MAX_DIGITS) {
+                kind = WRONG;
             }
         }
 
-        private void readWord() {
-            kind = WORD;
-            while (end < text.length && isLetter(text.byteAt(end))) {
-                end++;
+        private int kindAt(int position) {
+            if (position >= text.length) {
+                return END;
             }
-        }
-
-        private void readNumber() {
-            while (end < text.length && isDigit(text.byteAt(end))) {
-                if (end - start < MAX_DIGITS) {
-                    value = value * 10 + (text.byteAt(end) - '0');
-                }
-                end++;
+            int sign = text.byteAt(position);
+            if (sign == ' ' || sign == '\n') {
+                return BLANK;
             }
-            kind = end - start > MAX_DIGITS ? WRONG : NUMBER;
+            if (sign >= 'a' && sign <= 'z') {
+                return WORD;
+            }
+            if (sign >= '0' && sign <= '9') {
+                return NUMBER;
+            }
+            return sign == ';' ? SEMICOLON : WRONG;
         }
 
         boolean isAtWord(String word) {
@@ -600,16 +596,12 @@ public final class ThermalCoreScheduler {
             return true;
         }
 
-        private static boolean isBlank(int sign) {
-            return sign == ' ' || sign == '\n';
-        }
-
-        private static boolean isLetter(int sign) {
-            return sign >= 'a' && sign <= 'z';
-        }
-
-        private static boolean isDigit(int sign) {
-            return sign >= '0' && sign <= '9';
+        int numberHere() {
+            int number = 0;
+            for (int position = start; position < end; position++) {
+                number = number * 10 + (text.byteAt(position) - '0');
+            }
+            return number;
         }
     }
 
@@ -632,20 +624,10 @@ public final class ThermalCoreScheduler {
         boolean parseText() {
             errorCode = 0;
             errorStart = NONE;
-            parsed.domainCount = 0;
             reader.readFirst();
-            return readSystem() && readDomains();
-        }
-
-        private boolean readSystem() {
-            if (!acceptWord("system") || !acceptNumber(0, MAX_AMBIENT)) {
+            if (!readSystem()) {
                 return false;
             }
-            parsed.ambient = number;
-            return acceptSemicolon();
-        }
-
-        private boolean readDomains() {
             for (int domain = 0; domain < MAX_DOMAINS; domain++) {
                 if (!readDomain(domain) || !readLevels(domain)) {
                     return false;
@@ -656,6 +638,14 @@ public final class ThermalCoreScheduler {
                 }
             }
             return fail(reader.isAtWord("domain") ? TOO_MANY : WRONG_TOKEN);
+        }
+
+        private boolean readSystem() {
+            if (!acceptWord("system") || !acceptNumber(0, MAX_AMBIENT)) {
+                return false;
+            }
+            parsed.ambient = number;
+            return acceptSemicolon();
         }
 
         private boolean readDomain(int domain) {
@@ -760,10 +750,10 @@ public final class ThermalCoreScheduler {
             if (reader.kind != TokenReader.NUMBER) {
                 return fail(WRONG_TOKEN);
             }
-            if (reader.value < least || reader.value > greatest) {
+            number = reader.numberHere();
+            if (number < least || number > greatest) {
                 return fail(WRONG_NUMBER);
             }
-            number = reader.value;
             reader.readNext();
             return true;
         }
@@ -884,7 +874,6 @@ public final class ThermalCoreScheduler {
             kinds[job] = kind;
             works[job] = work;
             remaining[job] = work;
-            ends[job] = REFUSED;
             waiting[domain] = with(waiting[domain], job);
             count++;
             return job;

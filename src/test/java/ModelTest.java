@@ -14,8 +14,10 @@ public final class ModelTest {
     private static Model m;
     private static String run;
 
+    /** More runs than usual may be asked for by an argument. */
     public static void main(String[] args) {
-        for (int seed = 1; seed <= RUNS; seed++) {
+        int runs = args.length > 0 ? Integer.parseInt(args[0]) : RUNS;
+        for (int seed = 1; seed <= runs; seed++) {
             random = new Random(seed);
             x = new ThermalCoreScheduler();
             m = new Model();
@@ -68,20 +70,23 @@ public final class ModelTest {
 
     // ---- texts
 
+    /** Mostly small numbers, so that limits, credits and deadlines matter; in some texts each in its whole range. */
     private static String systemText() {
-        StringBuilder text = new StringBuilder("system " + upTo(500) + ";");
+        boolean whole = upTo(5) == 0;
+        StringBuilder text = new StringBuilder("system " + upTo(whole ? 9999 : 500) + ";");
         int domains = 1 + upTo(3);
         for (int d = 0; d < domains; d++) {
-            int limit = upTo(4) == 0 ? upTo(99999) : 100 + upTo(1500);
-            text.append("domain ").append(1 + upTo(3)).append(' ').append(limit).append(' ').append(upTo(300));
-            text.append(' ').append(1 + upTo(upTo(1) == 0 ? 998 : 200)).append(' ').append(upTo(20)).append(' ');
-            text.append(upTo(4)).append(' ').append(upTo(6)).append(' ').append(Model.POLICIES[upTo(3)]).append(';');
+            int limit = whole || upTo(4) == 0 ? upTo(99999) : 100 + upTo(1500);
+            text.append("domain ").append(1 + upTo(3)).append(' ').append(limit).append(' ');
+            text.append(upTo(whole ? 999 : 300)).append(' ').append(1 + upTo(whole || upTo(1) == 0 ? 998 : 200));
+            text.append(' ').append(upTo(whole ? 99 : 20)).append(' ').append(upTo(4)).append(' ');
+            text.append(upTo(whole ? 99 : 6)).append(' ').append(Model.POLICIES[upTo(3)]).append(';');
             int frequency = 0;
             int power = 0;
             int levels = 1 + upTo(4);
             for (int l = 0; l < levels; l++) {
-                frequency += 1 + upTo(30);
-                power = upTo(3) == 0 ? upTo(200) : power + upTo(90);
+                frequency += 1 + upTo(whole ? 198 : 30);
+                power = whole ? upTo(999) : upTo(3) == 0 ? upTo(200) : power + upTo(90);
                 text.append("level ").append(frequency).append(' ').append(power).append(';');
             }
         }

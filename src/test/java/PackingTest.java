@@ -11,6 +11,7 @@ public final class PackingTest {
         intervals();
         clockCutsIntervals();
         manyJobs();
+        eachQueryAlone();
         fewestTicks();
         CHECK.end();
     }
@@ -95,6 +96,22 @@ public final class PackingTest {
             due[2 * (23 - job) + 1] = 1 << job;
         }
         packed(x, 0, due);
+    }
+
+    /** No query may live on what another one has found. */
+    private static void eachQueryAlone() {
+        ThermalCoreScheduler x = Check.loaded(TEXT);
+        x.addJob(0, 0, 5, 4, 1, 20);
+        x.addJob(1, 0, 1, 1, 1, 20);
+        CHECK.same("packedTick first of all", x.packedTick(0, 0), 9);
+        CHECK.same("packedJobs of another domain", x.packedJobs(1, 0), 2);
+        CHECK.same("packedTick of the first domain", x.packedTick(0, 0), 9);
+        CHECK.same("packedWakeUps of the other", x.packedWakeUps(1), 1);
+        CHECK.same("packedJobs of the first domain", x.packedJobs(0, 0), 1);
+        x.addJob(0, 0, 20, 0, 1, 20);
+        CHECK.same("packedJobs after another job", x.packedJobs(0, 1), 4);
+        x.undo();
+        CHECK.same("packedTick after undo", x.packedTick(0, 1), -2);
     }
 
     /** Against a search through all sets of slack ends, one of which is always among the best sets of ticks. */

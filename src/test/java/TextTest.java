@@ -111,6 +111,8 @@ public final class TextTest {
         text("systems 1;", -11, 0);
         text("syste 1;", -11, 0);
         text("sysdem 1;", -11, 0);
+        text("zystem 1;", -11, 0);
+        text("systemz 1;", -11, 0);
         text("100;", -11, 0);
         text(";", -11, 0);
         text("domain 1 0 0 1 0 0 0 max;level 1 0;", -11, 0);
@@ -129,12 +131,16 @@ public final class TextTest {
         text("system 12345678901234567890;", -11, 7);
         text(SYSTEM, -11, 11);
         text(SYSTEM + ";", -11, 11);
+        text("system 100;;" + DOMAIN + LEVEL, -11, 11);
         text(SYSTEM + "level 1 1;", -11, 11);
         text(SYSTEM + SYSTEM, -11, 11);
         text(SYSTEM + DOMAIN, -11, 44);
         text(SYSTEM + DOMAIN + " \n", -11, 46);
         text(SYSTEM + DOMAIN + DOMAIN, -11, 44);
         text(SYSTEM + DOMAIN + "levels 1 1;", -11, 44);
+        text(SYSTEM + DOMAIN + "revel 1 1;", -11, 44);
+        text(SYSTEM + DOMAIN + LEVEL + "revel 11 1;", -11, 56);
+        text(SYSTEM + DOMAIN + LEVEL + "romain 1 1 1 1 1 1 1 max;", -11, 56);
         text(SYSTEM + DOMAIN + LEVEL + SYSTEM, -11, 56);
         text(SYSTEM + DOMAIN + LEVEL + ";", -11, 56);
         text(SYSTEM + DOMAIN + LEVEL + "7", -11, 56);
@@ -146,6 +152,9 @@ public final class TextTest {
         text(SYSTEM + "domain 2 1000 100 100 5 0 2;", -11, 38);
         text(SYSTEM + "domain 2 1000 100 100 5 0 2 maxx;", -11, 39);
         text(SYSTEM + "domain 2 1000 100 100 5 0 2 ma;", -11, 39);
+        text(SYSTEM + "domain 2 1000 100 100 5 0 2 maxz;", -11, 39);
+        text(SYSTEM + "domain 2 1000 100 100 5 0 2 face;", -11, 39);
+        text(SYSTEM + "domain 2 1000 100 100 5 0 2 level;", -11, 39);
         text(SYSTEM + "domain 2 1000 100 100 5 0 2 3;", -11, 39);
         text(SYSTEM + "domain 2 1000 100 100 5 0 max;", -11, 37);
         text(SYSTEM + "domain 2 1000 100 100 5 0 2 max level", -11, 43);
