@@ -152,7 +152,11 @@ public final class ForecastTest {
         ThermalCoreScheduler z = Check.loaded(one);
         z.addJob(0, 0, 0, 0, 100, 1);
         CHECK.same("late in any case", z.bestPolicy(0), 1);
-        z.tick(5);
+        for (int job = 1; job < 24; job++) {
+            z.addJob(0, 0, 0, 0, 30, 1);
+        }
+        CHECK.same("24 jobs are late in any case", z.bestPolicy(0), 1);
+        z.tick(100);
         CHECK.same("all over", z.bestPolicy(0), 0);
     }
 
