@@ -20,6 +20,7 @@ public final class ThermalCoreScheduler {
     private static final int MAX_ACTIONS = 10;
     private static final int MAX_MIXED_WORK = 500;
     private static final int MAX_MIXED_WINDOW = 100;
+    private static final int UNBOUNDED = 2147483647;
 
     private static final int POLICY_MAX = 0;
     private static final int POLICY_MIN = 1;
@@ -387,7 +388,7 @@ public final class ThermalCoreScheduler {
     public int coolLimit(int domain) throws IllegalStateException, IllegalArgumentException {
         needDomain(domain);
         forecast.copyFrom(state);
-        forecast.limits[domain] = Integer.MAX_VALUE;
+        forecast.limits[domain] = UNBOUNDED;
         int needed = 0;
         for (int passed = 0; passed < FORECAST_TICKS && !forecast.jobs.areOver(); passed++) {
             forecast.passTick();
@@ -413,7 +414,7 @@ public final class ThermalCoreScheduler {
         needRange(work, 1, 9999);
         needRange(window, 1, 9999);
         int best = REFUSED;
-        int leastEnergy = Integer.MAX_VALUE;
+        int leastEnergy = UNBOUNDED;
         for (int level = 0; level < setup.levelCounts[domain]; level++) {
             int energy = setup.energyAt(domain, level, work, window);
             if (energy != REFUSED && energy <= leastEnergy) {
@@ -963,7 +964,7 @@ public final class ThermalCoreScheduler {
 
         /** The tick in which the most urgent job of a set has used up its slack. */
         int leastSlackEnd(int set) {
-            int least = Integer.MAX_VALUE;
+            int least = UNBOUNDED;
             for (int job = 0; job < count; job++) {
                 if (holds(set, job)) {
                     least = Math.min(least, releases[job] + slacks[job]);
