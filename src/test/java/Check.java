@@ -7,16 +7,22 @@ final class Check {
     private final String name;
     private int asked;
     private int wrong;
+    private String sentence = "";
 
     Check(String name) {
         this.name = name;
+    }
+
+    /** Names the sentence of the document that the next answers stand for. */
+    void about(String words) {
+        sentence = " [" + words + "]";
     }
 
     void same(String call, Object got, Object due) {
         asked++;
         if (!due.equals(got)) {
             wrong++;
-            System.out.println(name + ": " + call + " answered " + got + ", due is " + due);
+            System.out.println(name + sentence + ": " + call + " answered " + got + ", due is " + due);
         }
     }
 

@@ -4,11 +4,14 @@ final class Picture {
     }
 
     static String of(ThermalCoreScheduler x) {
+        return "error " + x.errorPosition() + ' ' + withoutErrorPosition(x);
+    }
+
+    static String withoutErrorPosition(ThermalCoreScheduler x) {
         StringBuilder s = new StringBuilder();
         s.append("clock ").append(Check.answer(() -> x.clock()));
         s.append(" jobs ").append(Check.answer(() -> x.jobCount()));
         s.append(" late ").append(Check.answer(() -> x.lateJobs()));
-        s.append(" error ").append(x.errorPosition());
         s.append(" over ").append(Check.answer(() -> x.allOver()));
         s.append(" will be late ").append(Check.answer(() -> x.willBeLate()));
         // What a tick needs of the ambient temperature shows in the peaks and energies to come.
@@ -24,6 +27,7 @@ final class Picture {
         for (int job = 0; job < 24; job++) {
             int j = job;
             s.append("\njob ").append(j).append(' ').append(Check.answer(() -> x.doneAt(j)));
+            s.append(' ').append(Check.answer(() -> x.willBeDone(j)));
             for (int what = 0; what < 8; what++) {
                 int w = what;
                 s.append(' ').append(Check.answer(() -> x.jobValue(j, w)));
@@ -40,7 +44,11 @@ final class Picture {
         s.append(' ').append(Check.answer(() -> x.throttleOrder(d)));
         s.append(' ').append(Check.answer(() -> x.peak(d, 40)));
         s.append(' ').append(Check.answer(() -> x.nextThrottle(d)));
+        s.append(' ').append(Check.answer(() -> x.bestPolicy(d)));
+        s.append(' ').append(Check.answer(() -> x.coolLimit(d)));
         s.append(' ').append(Check.answer(() -> x.packedWakeUps(d)));
+        s.append(' ').append(Check.answer(() -> x.packedTick(d, 0)));
+        s.append(' ').append(Check.answer(() -> x.packedJobs(d, 0)));
         for (int what = 0; what < 9; what++) {
             int w = what;
             s.append(' ').append(Check.answer(() -> x.domainValue(d, w)));

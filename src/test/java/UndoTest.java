@@ -11,6 +11,8 @@ public final class UndoTest {
         nothingToUndo();
         eachAction();
         latestTen();
+        anyNumberOfActions();
+        actionsBetweenUndos();
         undoneOnesAreGone();
         textIsNotUndone();
         CHECK.end();
@@ -79,6 +81,49 @@ public final class UndoTest {
         }
         CHECK.same("undo() of the eleventh", x.undo(), -2);
         CHECK.same("the limit stays", x.domainValue(0, 4), 13);
+    }
+
+    private static void anyNumberOfActions() {
+        for (int actions = 0; actions <= 32; actions++) {
+            CHECK.about("section 6: the latest 10 actions are remembered, here of " + actions);
+            ThermalCoreScheduler x = Check.loaded(TEXT);
+            for (int limit = 1; limit <= actions; limit++) {
+                CHECK.same("setLimit", x.setLimit(0, limit), limit == 1 ? 400 : limit - 1);
+            }
+            int kept = Math.min(actions, 10);
+            for (int left = kept - 1; left >= 0; left--) {
+                CHECK.same("undo()", x.undo(), left);
+            }
+            CHECK.about("promise 41: -2 if there is no action to undo, here after " + actions);
+            int due = actions <= 10 ? 400 : actions - 10;
+            CHECK.same("the limit", x.domainValue(0, 4), due);
+            CHECK.same("undo()", x.undo(), -2);
+            CHECK.same("undo() once more", x.undo(), -2);
+            CHECK.same("the limit after it", x.domainValue(0, 4), due);
+        }
+    }
+
+    private static void actionsBetweenUndos() {
+        CHECK.about("promise 41: the latest action that was not undone yet");
+        for (int back = 1; back <= 10; back++) {
+            ThermalCoreScheduler x = Check.loaded(TEXT);
+            for (int limit = 1; limit <= 15; limit++) {
+                x.setLimit(0, limit);
+            }
+            for (int i = 1; i <= back; i++) {
+                CHECK.same("undo()", x.undo(), 10 - i);
+            }
+            for (int limit = 101; limit <= 103; limit++) {
+                x.setLimit(0, limit);
+            }
+            int kept = Math.min(10, 10 - back + 3);
+            for (int left = kept - 1; left >= 0; left--) {
+                CHECK.same("undo() after three actions", x.undo(), left);
+                int undone = kept - left;
+                CHECK.same("the limit", x.domainValue(0, 4), undone < 3 ? 103 - undone : 15 - back + 3 - undone);
+            }
+            CHECK.same("undo() of no action", x.undo(), -2);
+        }
     }
 
     private static void undoneOnesAreGone() {
