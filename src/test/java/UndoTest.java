@@ -127,6 +127,7 @@ public final class UndoTest {
     }
 
     private static void undoneOnesAreGone() {
+        CHECK.about("promise 41: an action that was undone does not come back");
         ThermalCoreScheduler x = Check.loaded(TEXT);
         for (int i = 1; i <= 12; i++) {
             x.setLimit(0, i);
@@ -141,6 +142,7 @@ public final class UndoTest {
     }
 
     private static void textIsNotUndone() {
+        CHECK.about("promise 41: everything except the text buffer and errorPosition()");
         ThermalCoreScheduler x = Check.loaded(TEXT);
         x.tick(1);
         Check.write(x, "system 1;what");
