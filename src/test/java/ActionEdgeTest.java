@@ -27,6 +27,7 @@ public final class ActionEdgeTest {
         wakeUps();
         demandAtEachFrequency();
         demandAtAndAfterTheDeadline();
+        demandOfTheOwnCoresAlone();
         policiesOfAnIdleDomain();
         creditsAtZero();
         creditsAtTheCapacity();
@@ -36,6 +37,7 @@ public final class ActionEdgeTest {
         powerOfHaltedAndIdleCores();
         truncatedDivisions();
         greatestNumbers();
+        fiveHundredTwelveCalls();
         CHECK.end();
     }
 
@@ -316,6 +318,17 @@ public final class ActionEdgeTest {
         stages(x, DONE, DONE, CANCELLED, WAITING);
         x.tick(1);
         CHECK.same("doneAt(3)", x.doneAt(3), 8);
+        CHECK.about("section 4 (1): .. nor if its jobs are ready only");
+        ThermalCoreScheduler y = Check.loaded("system 0;domain 1 99999 0 1 0 0 0 min;level 10 1;");
+        y.addJob(0, 0, 0, 0, 10, 9);
+        y.addJob(0, 0, 0, 0, 20, 9);
+        y.addJob(0, 0, 1, 9, 10, 9);
+        y.tick(1);
+        stages(y, DONE, READY, WAITING);
+        y.tick(1);
+        stages(y, DONE, RUNNING, WAITING);
+        y.tick(1);
+        stages(y, DONE, DONE, READY);
         CHECK.about("section 4 (1): .. nor if another domain has one");
         x.addJob(1, 0, 0, 0, 99, 99);
         x.addJob(0, 0, 0, 3, 10, 99);
@@ -421,6 +434,34 @@ public final class ActionEdgeTest {
         CHECK.same("two ticks before the deadline", demanding(2, 11, 4).level(0), 1);
     }
 
+    private static void demandOfTheOwnCoresAlone() {
+        CHECK.about("section 4 (3): the requirement of a running job, of this domain alone");
+        String domain = "domain 4 99999 0 1 0 4 0 demand;level 5 1;level 10 2;level 20 3;";
+        for (int busy = 0; busy < 4; busy++) {
+            ThermalCoreScheduler x = Check.loaded("system 0;" + domain.repeat(4));
+            for (int other = 0; other < 4; other++) {
+                for (int core = 0; core < 4; core++) {
+                    x.addJob(other, 0, 0, 0, other == busy ? 990 : 90, 99);
+                }
+            }
+            for (int passed = 0; passed < 2; passed++) {
+                x.tick(1);
+                for (int other = 0; other < 4; other++) {
+                    CHECK.same("level(" + other + ") if " + busy + " is busy", x.level(other), other == busy ? 1 : 0);
+                }
+            }
+        }
+        CHECK.about("section 4 (3): the greatest requirement, on whichever core it is");
+        for (int heavy = 0; heavy < 4; heavy++) {
+            ThermalCoreScheduler y = Check.loaded("system 0;" + domain);
+            for (int core = 0; core < 4; core++) {
+                y.addJob(0, 0, 0, 0, core == heavy ? 100 : 1, 10);
+            }
+            y.tick(1);
+            CHECK.same("level(0) with the heavy job on core " + heavy, y.level(0), 1);
+        }
+    }
+
     private static void policiesOfAnIdleDomain() {
         CHECK.about("section 4 (3): the policies with and without a job");
         int[] idle = {2, 0, 0, 0};
@@ -497,6 +538,15 @@ public final class ActionEdgeTest {
         CHECK.same("at the capacity", y.domainValue(0, 0), 5);
         y.tick(1);
         CHECK.same("not above the capacity", y.domainValue(0, 0), 5);
+        CHECK.about("section 4 (4): they increase in an idle tick, also at a level above the base level");
+        y.setPolicy(0, 0);
+        y.addJob(0, 0, 0, 0, 80, 99);
+        y.tick(4);
+        CHECK.same("after four ticks of a job", y.domainValue(0, 0), 1);
+        y.tick(1);
+        CHECK.same("level(0) of the idle domain", y.level(0), 2);
+        CHECK.same("after an idle tick at the highest level", y.domainValue(0, 0), 2);
+        CHECK.about("section 4 (4): they do not decrease at the base level");
         ThermalCoreScheduler z = credited(2, 5, "race");
         z.addJob(0, 0, 0, 0, 60, 99);
         z.tick(2);
@@ -661,5 +711,21 @@ public final class ActionEdgeTest {
                 CHECK.same("energy(0) with the cooling " + cooling, (long) x.energy(0), energy);
             }
         }
+    }
+
+    private static void fiveHundredTwelveCalls() {
+        CHECK.about("an object is used for at most 512 calls: the longest time that can pass");
+        // Three calls of append, one of truncate and one of load.
+        ThermalCoreScheduler x = Check.loaded("system 0;domain 4 99999 0 1 99 0 0 max;level 1 999;");
+        for (int job = 0; job < 24; job++) {
+            x.addJob(0, 0, 0, 0, 9999, 9999);
+        }
+        int done = 0;
+        for (int call = 30; call < 512; call++) {
+            done += x.tick(500);
+        }
+        CHECK.same("energy(0) in the 512th call", x.energy(0), 59994 * 3996 + 181006 * 396);
+        CHECK.same("the jobs that became done", done, 24);
+        CHECK.same("clock()", x.clock(), 241000);
     }
 }

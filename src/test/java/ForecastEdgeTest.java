@@ -23,6 +23,7 @@ public final class ForecastEdgeTest {
         nextThrottleAtItsEnds();
         nextThrottleOfThisDomainFromNow();
         bestPolicyOfEquals();
+        bestPolicyOfAllDomains();
         bestPolicyAtTheDeadline();
         bestPolicyWhenTheForecastEnds();
         coolLimitAtItsEnds();
@@ -290,6 +291,23 @@ public final class ForecastEdgeTest {
         z.addJob(0, 0, 0, 0, 10, 199);
         CHECK.same("bestPolicy(0) with less energy at the low level", z.bestPolicy(0), 1);
         CHECK.same("the policy itself", z.domainValue(0, 5), 3);
+    }
+
+    private static void bestPolicyOfAllDomains() {
+        CHECK.about("promise 33: with which all domains together need the least energy");
+        String own = "system 0;domain 1 99999 0 1 0 4 0 max;level 10 10;level 20 30;";
+        // The low level saves 10 in two ticks, the other domain idles one tick longer for it.
+        for (int idle = 9; idle <= 11; idle++) {
+            ThermalCoreScheduler x = Check.loaded(own + "domain 1 99999 0 1 " + idle + " 0 0 min;level 1 1;");
+            x.addJob(0, 0, 0, 0, 20, 99);
+            CHECK.same("bestPolicy(0) with the idle power " + idle, x.bestPolicy(0), idle < 10 ? 1 : 0);
+            CHECK.same("bestPolicy(1) with the idle power " + idle, x.bestPolicy(1), 0);
+        }
+        CHECK.about("promise 33: the energy from now on, whatever was needed before");
+        ThermalCoreScheduler y = Check.loaded(own);
+        y.tick(500);
+        y.addJob(0, 0, 0, 0, 20, 99);
+        CHECK.same("bestPolicy(0)", y.bestPolicy(0), 1);
     }
 
     private static void bestPolicyAtTheDeadline() {

@@ -233,7 +233,7 @@ public final class TextEdgeTest {
         }
     }
 
-    /** Eleven actions that leave jobs in every stage, and every count of domain 0 above 0. */
+    /** More than ten actions that leave jobs in every stage, and every count of domain 0 above 0. */
     private static void workHard(ThermalCoreScheduler x) {
         x.setAmbient(200);
         x.addJob(0, 0, 0, 0, 15, 1);
@@ -243,9 +243,17 @@ public final class TextEdgeTest {
         x.setLimit(0, 150);
         x.tick(2);
         x.setPolicy(0, 3);
-        x.addJob(0, 7, 0, 0, 500, 99);
-        x.tick(1);
         x.cancelJob(1);
+        x.tick(2);
+        x.setLimit(0, 9000);
+        for (int job = 0; job < 6; job++) {
+            x.addJob(0, 7, 0, 0, 500, 99);
+        }
+        x.tick(1);
+        CHECK.same("a waiting and a ready job", 10 * x.jobValue(2, 7) + x.jobValue(8, 7), 1);
+        CHECK.same("a done, a cancelled and a running job", 100 * x.jobValue(0, 7) + 10 * x.jobValue(1, 7)
+                + x.jobValue(3, 7), 342);
+        CHECK.same("a level above 0 if there is one", x.level(0), x.domainValue(0, 6) - 1);
     }
 
     private static void noTraceOfAnEarlierText() {
